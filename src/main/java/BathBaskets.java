@@ -23,17 +23,21 @@ public final class BathBaskets {
     private static final int MOST_DRAWS = 99;
 
     /* The kinds of acts bear the sign that begins them; all letters are of one kind. */
-    private static final char GO = 'A';
-    private static final char LOOK = '?';
-    private static final char LAY = '+';
-    private static final char TAKE = '-';
-    private static final char CHANGE = '=';
-    private static final char WAIT = '.';
+    private static final int GO = 'A';
+    private static final int LOOK = '?';
+    private static final int LAY = '+';
+    private static final int TAKE = '-';
+    private static final int CHANGE = '=';
+    private static final int WAIT = '.';
 
-    private static final char[] DRAWN_KINDS = {'A', 'A', '?', '?', '+', '-', '=', '.'};
+    private static final int[] DRAWN_KINDS = {GO, GO, LOOK, LOOK, LAY, TAKE, CHANGE, WAIT};
 
-    /* Not a refusal: nothing stands in the way. */
+    /* Why an act can not be, by the document's numbers; FREE: nothing stands in the way. */
     private static final int FREE = 0;
+    private static final int THERE_ALREADY = 1;
+    private static final int NOT_TO_BE_HAD = 2;
+    private static final int HAD_ALREADY = 3;
+    private static final int TOO_LATE = 4;
 
     private final Bath bath = new Bath();
     private final Notes notes = new Notes();
@@ -453,10 +457,10 @@ public final class BathBaskets {
         }
 
         /** The least reason why an act can not be, or FREE. */
-        int whyNot(char kind, int on) {
+        int whyNot(int kind, int on) {
             switch (kind) {
                 case GO:
-                    return on == cabin ? 1 : whyTooLate(Math.abs(on - cabin));
+                    return on == cabin ? THERE_ALREADY : whyTooLate(Math.abs(on - cabin));
                 case LOOK:
                     return whyTooLate(minutes[basketHere()]);
                 case LAY:
@@ -464,7 +468,7 @@ public final class BathBaskets {
                 case TAKE:
                     return whyNotMoved(things[basketHere()], has, on);
                 case CHANGE:
-                    return on == cabin ? 1 : FREE;
+                    return on == cabin ? THERE_ALREADY : FREE;
                 default:
                     return whyTooLate(1);
             }
@@ -472,17 +476,17 @@ public final class BathBaskets {
 
         private int whyNotMoved(int from, int to, int thing) {
             if (!isIn(from, thing)) {
-                return 2;
+                return NOT_TO_BE_HAD;
             }
-            return isIn(to, thing) ? 3 : FREE;
+            return isIn(to, thing) ? HAD_ALREADY : FREE;
         }
 
         private int whyTooLate(int duration) {
-            return now + duration > bell ? 4 : FREE;
+            return now + duration > bell ? TOO_LATE : FREE;
         }
 
         /** Does an act that can be. */
-        void perform(char kind, int on) {
+        void perform(int kind, int on) {
             int here = basketHere();
             switch (kind) {
                 case GO:
@@ -538,8 +542,8 @@ public final class BathBaskets {
             return isOpen ? count : NONE;
         }
 
-        char kindAt(int place) {
-            return isLetter(signs[place]) ? GO : (char) signs[place];
+        int kindAt(int place) {
+            return isLetter(signs[place]) ? GO : signs[place];
         }
 
         /** The cabin or the thing of the act that begins there; what an act of ? or . gets is not looked at. */
@@ -596,7 +600,7 @@ public final class BathBaskets {
             }
         }
 
-        private void playAct(char kind, int on) {
+        private void playAct(int kind, int on) {
             int reason = bath.whyNot(kind, on);
             if (reason != FREE) {
                 stoppedAt = acts;
@@ -629,8 +633,8 @@ public final class BathBaskets {
             int x = seed;
             for (int i = 0; i < draws; i++) {
                 x = (75 * x + 74) % 65537;
-                char kind = DRAWN_KINDS[x & 7];
-                int y = x >> 3;
+                int kind = DRAWN_KINDS[x % 8];
+                int y = x / 8;
                 int on = kind == LAY || kind == TAKE ? y % THINGS : y % CABINS;
                 if (bath.whyNot(kind, on) == FREE) {
                     bath.perform(kind, on);
@@ -765,7 +769,7 @@ public final class BathBaskets {
             }
         }
 
-        /** The shortest way from start by all cabins of the set to the goal: one end of the row first, then the other. */
+        /** The shortest way from start by all cabins of the set to the goal: to one end first, then to the other. */
         private static int walk(int set, int start, int goal) {
             int all = set | (1 << start) | (1 << goal);
             int least = 0;

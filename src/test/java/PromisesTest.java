@@ -231,8 +231,10 @@ public final class PromisesTest {
     due(9, "a fault behind an act that can not be", evening("Ax").judge(0), NO);
     x = evening("B?=A");
     before = state(x);
-    x.judge(2);
+    due(9, "one evening", x.judge(2), 2);
     unchanged(9, "judging", before, x);
+    told(x, "C?");
+    due(9, "another evening", x.judge(2), 4);
   }
 
   private static void judgeByTheBell() {
@@ -351,6 +353,7 @@ public final class PromisesTest {
     due(12, "put right: how many", x.wrong(0), 0);
     due(12, "put right: no loss", x.wrong(1), NONE);
     told(x, "=F");
+    due(12, "only the greater one had its own", x.wrong(1), 0);
     due(12, "only the greater one had its own", x.wrong(2), 5);
     told(x, "J=F");
     due(12, "only the lesser one had its own", x.wrong(2), 5);
@@ -471,6 +474,8 @@ public final class PromisesTest {
     due(15, "seen and shown", x.show(255, 0), 2);
     told(x, "=B").done();
     due(15, "baskets are told, not cabins", x.show(2, 1), 2);
+    x.basket(0, 2, 1);
+    due(15, "basket 0, too", x.show(2, 1), 1);
     String before = state(x);
     int[][] refused = {{-1, 0}, {256, 0}, {0, -1}, {0, 2}, {LEAST, 0}, {MOST, 1}, {255, MOST}};
     for (int[] r : refused) {
@@ -496,6 +501,13 @@ public final class PromisesTest {
     due(16, "0 alone takes the least", x.owners(1, 0), 2);
     due(16, "the empty set", x.owners(0, -1), 0);
     due(16, "a thing in no basket", x.owners(128, -1), 0);
+    x.basket(2, 2, 1);
+    x.basket(5, 2, 1);
+    due(16, "thing 0 in no basket", x.owners(1, -1), 0);
+    due(16, "thing 0 in no basket", x.owners(3, -1), 1);
+    due(16, "thing 0 in no basket", x.owners(3, 0), NONE);
+    due(16, "thing 0 in no basket", x.owners(3, 1), 2);
+    x.basket(2, 1 | 2, 1);
     x.basket(5, 0, 1);
     due(16, "0 before 1", x.owners(3, 0), 2);
     due(16, "0 before 1", x.owners(3, 1), NONE);
@@ -524,7 +536,7 @@ public final class PromisesTest {
       due(17, "how often of " + r[0], x.towels(r[0], 1), r[2]);
     }
     String before = state(x);
-    int[] none = {0, 1, 11345, 12346, 12344, 1234, 612345, 1012345, 6012345, 1123450, -12345, -543210, -10, LEAST, MOST};
+    int[] none = {0, 1, 11345, 121345, 512345, 12346, 12344, 1234, 612345, 1012345, 6012345, 1123450, -12345, -543210, -10, LEAST, MOST};
     for (int row : none) {
       due(17, "row " + row, x.towels(row, 0), OUTSIDE);
       due(17, "row " + row, x.towels(row, 1), OUTSIDE);
@@ -711,7 +723,14 @@ public final class PromisesTest {
     due(24, "in time", x.year(3, 1, 0), 60);
     // seed 1: 149 = 18 * 8 + 5: can not take 2; seed 7: 599 = 74 * 8 + 7: a minute
     due(24, "a minute", x.year(7, 1, 0), 57);
-    due(24, "the greatest", x.year(9999, 99, 0) >= 56 ? 1 : 0, 1);
+    // seed 9999: 29092 = 3636 * 8 + 4: can not lay 4; 19253 = 2406 * 8 + 5: takes 6; 2235 = 279 * 8 + 3: goes through
+    x.clock(0, 60);
+    x.basket(0, 64 | 3, 7);
+    x.attendant(0, 0, 4);
+    due(24, "can not lay 4", x.year(9999, 1, 0), 0);
+    due(24, "takes 6", x.year(9999, 2, 1), 2);
+    due(24, "goes through", x.year(9999, 3, 0), 7);
+    due(24, "goes through what is left", x.year(9999, 3, 1), 4);
     String before = state(x);
     int[][] refused = {{-1, 1, 0}, {10000, 1, 0}, {0, 0, 0}, {0, 100, 0}, {0, 1, -1}, {0, 1, 3}, {MOST, LEAST, MOST}};
     for (int[] r : refused) {
