@@ -1,7 +1,9 @@
 import java.util.ArrayList;
+import java.util.HashSet;
 import java.util.LinkedHashMap;
 import java.util.List;
 import java.util.Map;
+import java.util.Set;
 import java.util.function.Supplier;
 
 /**
@@ -26,7 +28,7 @@ final class Edges {
   }
 
   private static String sentence = "";
-  private static int sentences = 0;
+  private static final Set<String> SENTENCES = new HashSet<>();
   private static int wrong = 0;
 
   private Edges() {
@@ -48,10 +50,10 @@ final class Edges {
     return new Bound(least, most, OUTSIDE);
   }
 
-  /** The document's sentence that all up to the next one is due by. */
+  /** The document's sentence that all up to the next one is due by; 0 stands for what it says of all calls. */
   static void says(int promise, String words) {
-    sentence = "promise " + promise + ", \"" + words + "\": ";
-    sentences++;
+    sentence = (promise == 0 ? "terms" : "promise " + promise) + ", \"" + words + "\": ";
+    SENTENCES.add(sentence);
   }
 
   static void due(String call, long got, long want) {
@@ -68,7 +70,7 @@ final class Edges {
   }
 
   static void end() {
-    System.out.println(sentences + " sentences, " + (wrong == 0 ? "all hold" : wrong + " answers are not as due"));
+    System.out.println(SENTENCES.size() + " sentences, " + (wrong == 0 ? "all hold" : wrong + " answers are not as due"));
     if (wrong != 0) {
       System.exit(1);
     }
@@ -192,6 +194,10 @@ final class Edges {
   static void refused(Supplier<BathBaskets> stand, String name, Call call, long refusal, int... a) {
     due(show(name, a), call.on(stand.get(), a), refusal);
     leavesAll("it", stand, name, call, a);
+  }
+
+  static void refusedEverywhere(String name, Call call, long refusal, int... a) {
+    stands().values().forEach(stand -> refused(stand, name, call, refusal, a));
   }
 
   // ---- numbers beyond their bounds
