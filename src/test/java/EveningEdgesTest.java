@@ -14,13 +14,32 @@ public final class EveningEdgesTest {
     return x;
   }
 
+  private static void cabins() {
+    Edges.says(9, "CABINS 0 to 9 (A to J) are in a row");
+    Edges.due("A", at(9, 0, 0, "A").his(0), 0);
+    Edges.due("J", at(0, 0, 0, "J").his(0), 9);
+    Edges.due("=A", at(9, 0, 0, "=A").behind(0, 0), 9);
+    Edges.due("=J", at(0, 0, 0, "=J").behind(9, 0), 0);
+    for (String none : new String[] {"@", "K", "a", "j", "0", "9"}) {
+      Edges.due(none, at(5, 0, 0, none).his(0), Edges.NO);
+      Edges.due("=" + none, at(5, 0, 0, "=" + none).his(0), Edges.NO);
+    }
+    BathBaskets round = Edges.evening("JA");
+    Edges.due("it does not close to a ring", round.his(3), 18);
+  }
+
   private static void acts() {
     Edges.says(9, "a CABIN's letter (the ATTENDANT goes there: a minute for each CABIN between, and one for that one)");
     int[][] ways = {{0, 1}, {1, 0}, {0, 9}, {9, 0}, {9, 8}, {8, 9}, {4, 6}, {6, 4}};
     for (int[] way : ways) {
       BathBaskets x = at(way[0], 0, 0, String.valueOf((char) ('A' + way[1])));
       Edges.due("there, from " + way[0], x.his(0), way[1]);
-      Edges.due("minutes from " + way[0] + " to " + way[1], x.his(3), Math.abs(way[0] - way[1]));
+      int minutes = Math.abs(way[0] - way[1]);
+      Edges.due("minutes from " + way[0] + " to " + way[1], x.his(3), minutes);
+      x.clock(99 - minutes, 99);
+      Edges.due("by the bell from " + way[0] + " to " + way[1], x.judge(1), Edges.NONE);
+      x.clock(100 - minutes, 99);
+      Edges.due("too late from " + way[0] + " to " + way[1], x.judge(1), 4);
     }
 
     Edges.says(9, "goes through the BASKET where he is, as many minutes as it wants: has SEEN all THINGS in it besides");
@@ -51,6 +70,8 @@ public final class EveningEdgesTest {
     Edges.due("with him", take.his(1), 131);
     Edges.due("seen, and nothing else of it", take.his(2), 133);
     Edges.due("no minute", take.his(3), 0);
+    take.attendant(0, 0, 129);
+    Edges.due("seen before stays seen", take.his(2), 129);
 
     Edges.says(9, "= and a CABIN's letter (the BASKETS here and there are changed, at once)");
     BathBaskets change = at(9, 0, 0, "=A");
@@ -182,6 +203,12 @@ public final class EveningEdgesTest {
     Edges.due("baskets, not cabins", Edges.evening("=J?").judge(2), 512);
     Edges.due("as it stood when he was there", Edges.evening("?=J").judge(2), 1);
     Edges.due("an empty one, too", Edges.evening("C?").judge(2), 4);
+    BathBaskets again = Edges.evening("?");
+    again.judge(2);
+    again.wipe();
+    Edges.due("not those of an evening before", Edges.say(again, "B?").judge(2), 2);
+    again.done();
+    Edges.due("nor those of one that is done", again.judge(2), 0);
 
     Edges.says(9, "NO: there is a FAULT");
     for (String signs : new String[] {"x", "+", "=", "B+", "+8", ".".repeat(59) + "x", ".".repeat(59) + "+"}) {
@@ -389,6 +416,7 @@ public final class EveningEdgesTest {
   }
 
   public static void main(String[] args) {
+    cabins();
     acts();
     reasons();
     judge();

@@ -17,6 +17,7 @@ public final class ModelTest {
   private static final int UNKNOWN = -1, OUTSIDE = -2, STATE = -3, FULL = -4, NO = -5, NONE = -6;
   private static final long GONE = -1000000000000000000L;
   private static int wrong = 0;
+  private static int answers = 0;
 
   /** All that stands, apart from the pad. */
   private static final class Stand {
@@ -593,6 +594,7 @@ public final class ModelTest {
   }
 
   private static void due(String call, long got, long want) {
+    answers++;
     if (got != want) {
       wrong++;
       if (wrong <= 40) {
@@ -605,6 +607,8 @@ public final class ModelTest {
     BathBaskets x = new BathBaskets();
     Model m = new Model();
     for (int row = -1000; row <= 1100000; row++) {
+      // nothing is promised of an object's calls beyond the 512th
+      x = row % 200 == 0 ? new BathBaskets() : x;
       if (TOWELS.containsKey(row)) {
         due("towels(" + row + ", 0)", x.towels(row, 0), m.towels(row, 0));
         due("towels(" + row + ", 1)", x.towels(row, 1), m.towels(row, 1));
@@ -613,6 +617,7 @@ public final class ModelTest {
       }
     }
     for (int a = -1; a <= 21; a++) {
+      x = new BathBaskets();
       for (int b = -1; b <= 21; b++) {
         due("piles(" + a + ", " + b + ", 0)", x.piles(a, b, 0), m.piles(a, b, 0));
         due("piles(" + a + ", " + b + ", 1)", x.piles(a, b, 1), m.piles(a, b, 1));
@@ -620,6 +625,7 @@ public final class ModelTest {
     }
     for (int n = 0; n <= 12; n++) {
       for (int k = 0; k <= 12; k++) {
+        x = new BathBaskets();
         for (int t = 0; t <= 10; t += n > 9 ? 3 : 1) {
           for (int w = 0; w <= 3; w++) {
             String call = "lengths(" + k + ", " + n + ", " + t + ", " + w / 2 + ", " + w % 2 + ")";
@@ -743,10 +749,11 @@ public final class ModelTest {
 
   private static void runs() {
     Random draw = new Random(77);
-    for (int run = 0; run < 300; run++) {
+    for (int run = 0; run < 900; run++) {
       BathBaskets x = new BathBaskets();
       Model m = new Model();
-      for (int step = 0; step < 60; step++) {
+      // a step makes some 50 calls at the most, and 205 come behind them: all of it stays below 512
+      for (int start = answers; answers - start < 250;) {
         if (draw.nextInt(3) == 0) {
           sayActs(run, x, m, draw);
           askEvening(run, x, m, draw);

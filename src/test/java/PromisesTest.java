@@ -653,6 +653,7 @@ public final class PromisesTest {
       }
     }
     due(22, "lost pairs", count, 17);
+    x = new BathBaskets();
     for (int[] l : lost) {
       due(22, "lost", x.piles(l[0], l[1], 0), 0);
       due(22, "lost", x.piles(l[1], l[0], 0), 0);

@@ -66,6 +66,7 @@ public final class RoundEdgesTest {
     roundIs("two that are further off", x, 9, 2, 192);
     roundIs("from one end to the other", x, 0, 1, 1);
 
+    betweenCabins();
     fromWhereHeIs();
 
     Edges.says(14, "UNKNOWN; OUTSIDE.");
@@ -78,6 +79,35 @@ public final class RoundEdgesTest {
     BathBaskets late = timed(99, 0);
     Edges.due("no such cabin, too late", late.round(10, 0), Edges.UNKNOWN);
     Edges.due("nothing so told, too late", late.round(0, 2), Edges.OUTSIDE);
+  }
+
+  private static void betweenCabins() {
+    Edges.says(14, "from where he is he goes through BASKETS, and to a told CABIN then");
+    int[][] ways = {{3, 6}, {6, 3}};
+    for (int[] way : ways) {
+      BathBaskets x = timed(0, 2);
+      x.attendant(way[0], 0, 0);
+      roundIs("too late, from " + way[0], x, way[1], Edges.NONE, Edges.NONE);
+      x.clock(0, 3);
+      roundIs("just there, from " + way[0], x, way[1], 0, 0);
+      x.clock(0, 6);
+      roundIs("one by the way, from " + way[0], x, way[1], 1, 8);
+      x.clock(0, 15);
+      roundIs("all by the way, from " + way[0], x, way[1], 4, 120);
+      x.clock(0, 20);
+      roundIs("one off the way, from " + way[0], x, way[1], 5, 124);
+      x.clock(0, 25);
+      roundIs("two off the way, from " + way[0], x, way[1], 6, 126);
+    }
+    for (int start = 4; start <= 5; start++) {
+      BathBaskets x = slow(0, 7);
+      x.attendant(start, 0, 0);
+      x.basket(3, 0, 1);
+      x.basket(6, 0, 1);
+      roundIs("on both sides, the nearer one first, from " + start, x, 9 - start, 2, 72);
+      x.clock(0, 6);
+      roundIs("a minute less, from " + start, x, 9 - start, 1, 8);
+    }
   }
 
   private static void fromWhereHeIs() {
@@ -216,6 +246,7 @@ public final class RoundEdgesTest {
       Edges.due("one in each, thing " + thing, oneInEach().owners(255, thing), 9 - thing);
       Edges.due("all in each, thing " + thing, all.owners(255, thing), thing);
       Edges.due("nothing anywhere, thing " + thing, empty.owners(255, thing), Edges.NONE);
+      Edges.due("it alone, nowhere, thing " + thing, empty.owners(1 << thing, -1), 0);
     }
 
     Edges.says(16, "NONE: with none, or it is not of the set");
